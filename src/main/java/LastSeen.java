@@ -18,6 +18,7 @@ public final class LastSeen {
     private final Graves graves;
     private final int[] foundName;
     private final int[] foundEntries;
+    private final int[] foundRule;
     private final int[] foundDigit;
     private int founds;
     private int entries;
@@ -33,6 +34,7 @@ public final class LastSeen {
         graves = new Graves(names);
         foundName = new int[MOST_FINDINGS];
         foundEntries = new int[MOST_FINDINGS];
+        foundRule = new int[MOST_FINDINGS];
         foundDigit = new int[MOST_FINDINGS];
     }
 
@@ -173,6 +175,7 @@ public final class LastSeen {
         int by = upTo(e);
         if (!isNameBy(name, by)) return NONE;
         hearing.open(name, by, by);
+        hearing.weigh();
         return bit(hearing.agrees());
     }
 
@@ -180,6 +183,7 @@ public final class LastSeen {
         int by = upTo(e);
         if (!isNameBy(name, by) || i < -1) return NONE;
         hearing.open(name, by, by);
+        hearing.weigh();
         if (hearing.agrees()) return STATE;
         int least = hearing.leastQuarrel();
         if (i == -1) return Integer.bitCount(least);
@@ -222,8 +226,7 @@ public final class LastSeen {
         if (!isNameBy(name, by)) return NONE;
         int rule = rules.latestBy(by);
         if (rule < 0) return NO;
-        hearing.open(name, by, by);
-        return rules.decide(rule, hearing);
+        return digitOf(rule, name, by, by);
     }
 
     public int find(int name) {
@@ -231,10 +234,10 @@ public final class LastSeen {
         int rule = rules.latestBy(entries);
         if (rule < 0) return STATE;
         if (founds >= MOST_FINDINGS) return FULL;
-        hearing.open(name, entries, entries);
         foundName[founds] = name;
         foundEntries[founds] = entries;
-        foundDigit[founds] = rules.decide(rule, hearing);
+        foundRule[founds] = rule;
+        foundDigit[founds] = digitOf(rule, name, entries, entries);
         founds++;
         return founds - 1;
     }
@@ -249,7 +252,7 @@ public final class LastSeen {
             case 2:
                 return foundDigit[finding];
             case 3:
-                return bit(stillHolds(finding));
+                return holding(finding, finding + 1);
             case 4:
                 return openAsFound(finding).leanCount();
             default:
@@ -356,7 +359,7 @@ public final class LastSeen {
             case 4: return standingNow();
             case 5: return rules.size();
             case 6: return founds;
-            case 7: return holdingNow();
+            case 7: return holding(0, founds);
             case 8: return graves.sets();
             case 9: return graves.lost();
             case 10: return graves.givenSets();
@@ -427,12 +430,10 @@ public final class LastSeen {
         return hearing;
     }
 
-    private boolean stillHolds(int finding) {
-        int by = foundEntries[finding];
-        int rule = rules.latestBy(by);
-        if (rule < 0) return false;
-        hearing.open(foundName[finding], by, entries);
-        return rules.decide(rule, hearing) == foundDigit[finding];
+    private int digitOf(int rule, int name, int by, int withdrawnBy) {
+        hearing.open(name, by, withdrawnBy);
+        if (rules.asksWhetherCan(rule)) hearing.weigh();
+        return rules.decide(rule, hearing);
     }
 
     private int personsNow() {
@@ -449,12 +450,14 @@ public final class LastSeen {
         return words.standing();
     }
 
-    private int holdingNow() {
-        int holding = 0;
-        for (int finding = 0; finding < founds; finding++) {
-            if (stillHolds(finding)) holding++;
+    /** How many FINDINGS of a row of them HOLD: have their digit without the WORDS that were withdrawn since. */
+    private int holding(int from, int to) {
+        int many = 0;
+        for (int finding = from; finding < to; finding++) {
+            int digit = digitOf(foundRule[finding], foundName[finding], foundEntries[finding], entries);
+            if (digit == foundDigit[finding]) many++;
         }
-        return holding;
+        return many;
     }
 
     /** The PLACES and how FAR they are from one another by the ROADS that are there. */
@@ -694,7 +697,7 @@ public final class LastSeen {
         private boolean sameKey(int a, int b) {
             if (keySizes[a] != keySizes[b]) return false;
             for (int i = 0; i < keySizes[a]; i++) {
-                if (keyLetter(a, i) != keyLetter(b, i)) return false;
+                if (letters[a * MOST_LETTERS + i] != letters[b * MOST_LETTERS + i]) return false;
             }
             return true;
         }
@@ -713,7 +716,7 @@ public final class LastSeen {
             persons[least] = least;
             for (int i = 0; i < reached && i < MOST; i++) {
                 for (int other = 0; other < sizeBy; other++) {
-                    if (persons[other] >= 0 || bond(row[i], other) != LINKED) continue;
+                    if (persons[other] >= 0 || bonds[row[i] * MOST + other] != LINKED) continue;
                     persons[other] = least;
                     row[reached] = other;
                     reached++;
@@ -722,7 +725,7 @@ public final class LastSeen {
         }
 
         int bond(int a, int b) {
-            return a == b ? 0 : bonds[a * MOST + b];
+            return bonds[a * MOST + b];
         }
 
         int leastOf(int name) {
@@ -972,7 +975,6 @@ public final class LastSeen {
     /** What the BOOK tells of one PERSON by so many ENTRIES. */
     private static final class Hearing {
         private static final int FIRST_ROOTS = 8;
-        private static final int UNASKED = -1;
 
         private final Names names;
         private final Words words;
@@ -982,8 +984,13 @@ public final class LastSeen {
         private final int[] roots = new int[Words.MOST];
         private int rootCount;
         private int hearsay;
+        private int witnessCount;
+        private int nameCount;
+        private int latest;
+        private int latestWatch;
+        private int latestPlaces;
         private int person;
-        private int agreement;
+        private boolean agreement;
 
         Hearing(Names ofNames, Words ofWords, Walk ofStays) {
             names = ofNames;
@@ -996,9 +1003,10 @@ public final class LastSeen {
             names.readBy(by);
             words.readBy(by, withdrawnBy);
             person = names.leastOf(name);
-            agreement = UNASKED;
+            nameCount = names.namesOf(person);
             readWords();
             readRoots();
+            readLatest();
         }
 
         private void readWords() {
@@ -1017,10 +1025,26 @@ public final class LastSeen {
 
         private void readRoots() {
             rootCount = 0;
+            int seenBy = 0;
             for (int word = 0; word < words.size(); word++) {
                 if (!isRoot[word]) continue;
                 roots[rootCount] = word;
                 rootCount++;
+                seenBy |= 1 << words.witnessOf(word);
+            }
+            witnessCount = Integer.bitCount(seenBy);
+        }
+
+        private void readLatest() {
+            latest = -1;
+            latestWatch = 0;
+            latestPlaces = 0;
+            for (int i = 0; i < rootCount; i++) {
+                int watch = words.lastOf(roots[i]);
+                if (latest >= 0 && watch <= latestWatch) continue;
+                latest = roots[i];
+                latestWatch = watch;
+                latestPlaces = Integer.bitCount(words.placesOf(latest));
             }
         }
 
@@ -1033,16 +1057,11 @@ public final class LastSeen {
         }
 
         int witnesses() {
-            int seen = 0;
-            for (int i = 0; i < rootCount; i++) seen |= 1 << words.witnessOf(roots[i]);
-            return Integer.bitCount(seen);
+            return witnessCount;
         }
 
+        /** LAST; -1 if there are no ROOTS. */
         int latestRoot() {
-            int latest = -1;
-            for (int i = 0; i < rootCount; i++) {
-                if (latest < 0 || words.lastOf(roots[i]) > words.lastOf(latest)) latest = roots[i];
-            }
             return latest;
         }
 
@@ -1073,13 +1092,15 @@ public final class LastSeen {
             }
         }
 
+        /** Sets whether the first ROOTS CAN BE; this is dear, so it is done where it is asked for alone. */
+        void weigh() {
+            loadWalk();
+            walk.go();
+            agreement = walk.isWalkable(walk.all());
+        }
+
         boolean agrees() {
-            if (agreement == UNASKED) {
-                loadWalk();
-                walk.go();
-                agreement = walk.isWalkable(walk.all()) ? 1 : 0;
-            }
-            return agreement == 1;
+            return agreement;
         }
 
         boolean agreesWith(int place, int watch) {
@@ -1089,31 +1110,22 @@ public final class LastSeen {
             return walk.isWalkable(walk.all());
         }
 
+        /** The LEAST QUARREL of the ROOTS that were weighed, as bits. */
         int leastQuarrel() {
-            loadWalk();
-            walk.go();
             return walk.leastQuarrel();
         }
 
-        /** What a LETTER of a RULE says of the PERSON. */
+        /** What a LETTER of a RULE says of the PERSON; c says what was weighed. */
         int measure(int letter) {
             switch (letter) {
-                case 'r':
-                    return rootCount;
-                case 'e':
-                    return witnesses();
-                case 'h':
-                    return hearsay;
-                case 'c':
-                    return agrees() ? 1 : 0;
-                case 'n':
-                    return names.namesOf(person);
-                case 'l':
-                    return rootCount == 0 ? 0 : words.lastOf(latestRoot());
-                case 'k':
-                    return rootCount == 0 ? 0 : Integer.bitCount(words.placesOf(latestRoot()));
-                default:
-                    return 0;
+                case 'r': return rootCount;
+                case 'e': return witnessCount;
+                case 'h': return hearsay;
+                case 'c': return agreement ? 1 : 0;
+                case 'n': return nameCount;
+                case 'l': return latestWatch;
+                case 'k': return latestPlaces;
+                default: return 0;
             }
         }
     }
@@ -1136,7 +1148,7 @@ public final class LastSeen {
         private int depth;
         private int clauses;
         private int digits;
-        private int number;
+        private boolean startsWithZero;
         private int cursor;
 
         // Of each group that is open: whether one of its rows was so, this row is so far, and what is before it turns it.
@@ -1184,7 +1196,7 @@ public final class LastSeen {
                 case SIGN: return isSign(c) ? NUMBER : STUCK;
                 case SIGN_OR_ELSE: return c == 'l' ? ELSE_S : isSign(c) ? NUMBER : STUCK;
                 case NUMBER: return afterFirstDigit(c);
-                case DIGITS: return isDigit(c) ? afterDigit(c) : afterFact(c);
+                case DIGITS: return isDigit(c) ? afterDigit() : afterFact(c);
                 case CLOSED: return afterFact(c);
                 case DIGIT: return isDigit(c) ? SEMICOLON : STUCK;
                 case SEMICOLON: return afterClause(c);
@@ -1216,14 +1228,13 @@ public final class LastSeen {
         private int afterFirstDigit(int c) {
             if (!isDigit(c)) return STUCK;
             digits = 1;
-            number = c - '0';
+            startsWithZero = c == '0';
             return DIGITS;
         }
 
-        private int afterDigit(int c) {
-            if (digits >= 3 || number == 0) return STUCK;
+        private int afterDigit() {
+            if (digits >= 3 || startsWithZero) return STUCK;
             digits++;
-            number = number * 10 + c - '0';
             return DIGITS;
         }
 
@@ -1252,6 +1263,14 @@ public final class LastSeen {
 
         private static boolean isDigit(int c) {
             return c >= '0' && c <= '9';
+        }
+
+        /** Whether the LETTER c is in a RULE; no other part of one has it. */
+        boolean asksWhetherCan(int rule) {
+            for (int i = 0; i < sizes[rule]; i++) {
+                if (textAt(rule, i) == 'c') return true;
+            }
+            return false;
         }
 
         private int textAt(int rule, int i) {

@@ -89,6 +89,14 @@ public final class GravesTest {
         for (int size : lefts) cross.bone(2, 1, 0, size);
         for (int size : rights) cross.bone(2, 1, 1, size);
         DUE.is("couples in whatever order they came", 5, cross.least(2));
+        LastSeen small = new LastSeen();
+        small.bone(1, 2, 0, 40);
+        small.bone(1, 2, 0, 80);
+        small.bone(1, 2, 1, 10);
+        small.bone(1, 2, 1, 41);
+        small.bone(1, 2, 1, 60);
+        small.bone(1, 2, 1, 78);
+        DUE.is("rights that are too small", 4, small.least(1));
     }
 
     private static void setsAdded() {
@@ -296,6 +304,7 @@ public final class GravesTest {
         DUE.is("give(1), as the other has to have 0", 1, seen.give(1));
         DUE.is("give(1) again", LastSeen.STATE, seen.give(1));
         DUE.is("give(0)", 0, seen.give(0));
+        DUE.is("give(0) again", LastSeen.STATE, seen.give(0));
         DUE.is("named(0)", 0, seen.named(0));
         DUE.is("named(1)", 1, seen.named(1));
         DUE.is("count(10)", 2, seen.count(10));
@@ -305,6 +314,11 @@ public final class GravesTest {
         DUE.is("give(-1)", LastSeen.NONE, seen.give(-1));
         DUE.is("named(2)", LastSeen.NONE, seen.named(2));
         DUE.is("named(-1)", LastSeen.NONE, seen.named(-1));
+        LastSeen other = Due.with("a");
+        other.set(0, 200, 220, 0, 0);
+        other.set(1, 100, 150, 0, 0);
+        other.missing(0, 120, 0, 0);
+        DUE.is("give, by the SETS of its own GRAVE alone", 0, other.give(1));
     }
 
     private static void givenKeepOthersOff() {
@@ -316,6 +330,9 @@ public final class GravesTest {
         seen.missing(2, 170, 0, 0);
         DUE.is("namings of the other GRAVE before", 3, seen.namings(2));
         DUE.is("give(0)", 0, seen.give(0));
+        seen.missing(2, 150, 0, 0);
+        DUE.is("namings of the NAMED one, though another one FITS", 1, seen.namings(1));
+        DUE.is("only of the NAMED one, though another one FITS", 0, seen.only(0, 1));
         DUE.is("namings then, without 0 and its ONE", 1, seen.namings(2));
         DUE.is("only then", 2, seen.only(1, 2));
         DUE.is("fit is what it was", 1, seen.fit(1, 0));

@@ -1,3 +1,5 @@
+import java.io.PrintWriter;
+import java.io.StringWriter;
 import java.lang.reflect.Constructor;
 import java.lang.reflect.Field;
 import java.lang.reflect.Method;
@@ -5,9 +7,12 @@ import java.lang.reflect.Modifier;
 import java.nio.file.Files;
 import java.nio.file.Path;
 import java.util.List;
+import java.util.Map;
+import java.util.TreeMap;
 import java.util.TreeSet;
 import java.util.regex.Matcher;
 import java.util.regex.Pattern;
+import java.util.spi.ToolProvider;
 
 /** The rules of LANGUAGE.md that a look at the text and at the compiled classes can tell. */
 public final class LanguageTest {
@@ -23,6 +28,7 @@ public final class LanguageTest {
         face();
         inside();
         methods(code);
+        depth();
         DUE.end();
     }
 
@@ -86,6 +92,45 @@ public final class LanguageTest {
             else DUE.is(field + " is a constant", 1, Modifier.isFinal(field.getModifiers()) ? 1 : 0);
         }
         DUE.is(one + " has some twenty fields at most", 1, fields <= 20 ? 1 : 0);
+    }
+
+    /** No call leads back to itself, and none goes more than eight deep. */
+    private static void depth() {
+        Map<String, TreeSet<String>> calls = new TreeMap<>();
+        readCalls("LastSeen", calls);
+        for (Class<?> one : LastSeen.class.getDeclaredClasses()) readCalls(one.getName(), calls);
+        DUE.is("methods that call were seen", 1, calls.size() > 50 ? 1 : 0);
+        for (String name : FACE.split(" ")) {
+            int deep = depthOf("LastSeen." + name, calls, 1);
+            DUE.is("depth of " + name + ", " + deep, 1, deep > 0 && deep <= 8 ? 1 : 0);
+        }
+    }
+
+    private static int depthOf(String method, Map<String, TreeSet<String>> calls, int above) {
+        int deep = above;
+        if (above > 50) return above;
+        for (String next : calls.getOrDefault(method, new TreeSet<>())) {
+            deep = Math.max(deep, depthOf(next, calls, above + 1));
+        }
+        return deep;
+    }
+
+    /** Methods go by class and name, so that two of one name count as one. */
+    private static void readCalls(String name, Map<String, TreeSet<String>> calls) {
+        StringWriter text = new StringWriter();
+        String path = System.getProperty("java.class.path");
+        ToolProvider.findFirst("javap").orElseThrow().run(new PrintWriter(text), new PrintWriter(System.err),
+            "-c", "-p", "-cp", path, name);
+        String method = null;
+        for (String line : text.toString().split("\n")) {
+            Matcher head = Pattern.compile("^  [^ ].* ([a-zA-Z]+)\\(.*\\);$").matcher(line);
+            if (head.find()) method = name + "." + head.group(1);
+            Matcher call = Pattern.compile("invoke\\w+ +#\\d+ +// \\w*Method (\\S+):").matcher(line);
+            if (!call.find() || method == null) continue;
+            String called = call.group(1);
+            if (called.indexOf('.') < 0) called = name + "." + called;
+            calls.computeIfAbsent(method, key -> new TreeSet<>()).add(called);
+        }
     }
 
     /** Each method has seven parameters and sixty lines at most. */

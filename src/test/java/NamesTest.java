@@ -150,6 +150,19 @@ public final class NamesTest {
         DUE.is("person(0, 7)", LastSeen.NONE, seen.person(0, 7));
         DUE.is("person(0, -3)", LastSeen.NONE, seen.person(0, -3));
         DUE.is("count(2)", 1, seen.count(2));
+        LastSeen chain = Due.with("xa", "b", "c", "d", "f", "g");
+        chain.join(0, 5);
+        chain.join(5, 1);
+        chain.join(3, 4);
+        int[] persons = {0, 0, 2, 3, 3, 0};
+        for (int name = 0; name < 6; name++) DUE.is("person " + name, persons[name], chain.person(name, -1));
+        DUE.is("count(2) of them", 3, chain.count(2));
+        LastSeen between = Due.with("kara", "cara");
+        between.part(0, 1);
+        Due.name(between, "qara");
+        DUE.is("person(1) by 3, PARTED", 1, between.person(1, 3));
+        DUE.is("person(1) by 4, by the NAME that came between", 0, between.person(1, 4));
+        DUE.is("tie by the NAME that came between", 3, between.tie(0, 1, -1));
     }
 
     private static void ties() {

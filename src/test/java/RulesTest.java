@@ -149,6 +149,11 @@ public final class RulesTest {
         int[] want = {-1, -5, 3, 4, 6, 5};
         for (int e = 0; e <= 5; e++) DUE.is("finding by " + e, want[e], seen.finding(0, e));
         DUE.is("finding of now", 5, seen.finding(0, -1));
+        LastSeen names = Due.with("kara");
+        Due.rule(names, "n=1>1;else>2");
+        Due.name(names, "cara");
+        DUE.is("finding by 2, of one NAME", 1, names.finding(0, 2));
+        DUE.is("finding by 3, of two NAMES", 2, names.finding(0, 3));
     }
 
     private static void findingRefused() {
@@ -240,6 +245,13 @@ public final class RulesTest {
         roads.road(0, 1, 9);
         DUE.is("digit before the ROAD", 0, roads.found(0, 2));
         DUE.is("HOLDS by the ROADS of now", 0, roads.found(0, 3));
+        Due.rule(roads, "r=2>7;else>8");
+        roads.find(0);
+        roads.withdraw(0);
+        Due.rule(roads, "c=0>7;else>8");
+        roads.find(0);
+        DUE.is("HOLDS not, by r", 0, roads.found(1, 3));
+        DUE.is("HOLDS, by c", 1, roads.found(2, 3));
     }
 
     private static void foundFull() {

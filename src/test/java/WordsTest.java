@@ -92,6 +92,13 @@ public final class WordsTest {
         while (seen.count(0) < 200) seen.part(0, 1);
         DUE.is("withdraw(0), STATE ahead of FULL", LastSeen.STATE, seen.withdraw(0));
         DUE.is("withdraw(1) with 200 ENTRIES", LastSeen.FULL, seen.withdraw(1));
+        LastSeen end = Due.with("a", "b");
+        end.word(1, 0, 1, 0, 0, -1);
+        while (end.count(0) < 199) end.part(0, 1);
+        DUE.is("withdraw(0), the 200th ENTRY", 1, end.withdraw(0));
+        DUE.is("withdraw(0) again, then", LastSeen.STATE, end.withdraw(0));
+        DUE.is("stands by 199", 1, end.about(0, 199, 0));
+        DUE.is("stands by 200", 0, end.about(0, 200, 0));
     }
 
     private static void aboutByEntries() {
