@@ -71,7 +71,7 @@ public final class LastSeen {
     }
 
     public int key(int name, int i) {
-        if (!isName(name)) return NONE;
+        if (!isName(name)) return NO;
         int size = names.keySize(name);
         if (i == -1) return size;
         if (i < 0 || i >= size) return NO;

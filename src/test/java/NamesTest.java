@@ -70,8 +70,13 @@ public final class NamesTest {
         DUE.is("key(0, 2), none such", -5, seen.key(0, 2));
         DUE.is("key(0, -2), none such", -5, seen.key(0, -2));
         DUE.is("key(0, greatest int)", -5, seen.key(0, Integer.MAX_VALUE));
-        DUE.is("key(2, -1)", LastSeen.NONE, seen.key(2, -1));
-        DUE.is("key(-1, 0)", LastSeen.NONE, seen.key(-1, 0));
+        DUE.is("key(2, -1), no such name", -5, seen.key(2, -1));
+        DUE.is("key(2, 0), no such name", -5, seen.key(2, 0));
+        DUE.is("key(-1, 0), no such name", -5, seen.key(-1, 0));
+        DUE.is("key(20, -1), no such name", -5, seen.key(20, -1));
+        DUE.is("key(least int, -2), no such name", -5, seen.key(Integer.MIN_VALUE, -2));
+        DUE.is("key(0, -1) of a new object", -5, new LastSeen().key(0, -1));
+        DUE.is("key(0, 0) of a new object", -5, new LastSeen().key(0, 0));
     }
 
     private static void joinAndPart() {

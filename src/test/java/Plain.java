@@ -109,7 +109,7 @@ final class Plain {
 
     int key(int name, int i) {
         List<String> names = namesBy(book.size());
-        if (name < 0 || name >= names.size()) return NONE;
+        if (name < 0 || name >= names.size()) return -5;
         String key = keyOf(names.get(name));
         if (i == -1) return key.length();
         return i < 0 || i >= key.length() ? -5 : key.charAt(i) - 'a';
