@@ -1543,11 +1543,18 @@ public final class LastSeen {
             return index;
         }
 
+        /** A NAMED SET has its NAME for good, so what another one is NAMED bars those alone that are not NAMED. */
         private boolean canGet(int set, int index) {
-            for (int other = 0; other < setCount; other++) {
-                if (other != set && given[other] >= 0 && same[given[other]] == same[index]) return false;
+            if (given[set] >= 0) return given[set] == index;
+            return suits(set, index) && !isBarred(index);
+        }
+
+        /** Whether a SET is NAMED this MISSING, or one that is ONE with it. */
+        private boolean isBarred(int index) {
+            for (int set = 0; set < setCount; set++) {
+                if (given[set] >= 0 && same[given[set]] == same[index]) return true;
             }
-            return given[set] >= 0 ? given[set] == index : suits(set, index);
+            return false;
         }
 
         /** Takes one PERSON of the MISSING after the other, so that none is given twice. */

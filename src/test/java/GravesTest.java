@@ -21,6 +21,7 @@ public final class GravesTest {
         gives();
         givenKeepOthersOff();
         givenThatBecomeOne();
+        givenThatBecomeOneBarOthers();
         takes();
         counts();
         DUE.end();
@@ -356,12 +357,43 @@ public final class GravesTest {
         DUE.is("namings of both", 1, seen.namings(3));
         seen.join(0, 1);
         DUE.is("namings of both, ONE now", 0, seen.namings(3));
-        DUE.is("namings of one, whose NAME is ONE with another's", 0, seen.namings(1));
+        DUE.is("namings of one, whose NAME is ONE with another's", 1, seen.namings(1));
+        DUE.is("namings of the other one", 1, seen.namings(2));
+        DUE.is("only of one", 0, seen.only(0, 1));
+        DUE.is("only of the other one", 1, seen.only(1, 2));
+        DUE.is("only of one of both", -5, seen.only(0, 3));
+        DUE.is("why of one", 0, seen.why(1));
+        DUE.is("why of both", 3, seen.why(3));
         DUE.is("named(0) still", 0, seen.named(0));
         DUE.is("take(1)", 1, seen.take(1));
         DUE.is("namings of one then", 1, seen.namings(1));
         DUE.is("namings of both then", 0, seen.namings(3));
         DUE.is("why then", 2, seen.why(3));
+    }
+
+    private static void givenThatBecomeOneBarOthers() {
+        LastSeen seen = Due.with("a", "b", "c", "d");
+        seen.set(0, 100, 150, 0, 0);
+        seen.set(0, 160, 220, 0, 0);
+        seen.missing(0, 150, 0, 0);
+        seen.missing(1, 160, 0, 0);
+        DUE.is("give(0)", 0, seen.give(0));
+        DUE.is("give(1)", 1, seen.give(1));
+        seen.missing(2, 0, 0, 0);
+        seen.missing(3, 120, 0, 0);
+        seen.set(1, 100, 220, 0, 0);
+        DUE.is("two for the third", 2, seen.namings(4));
+        seen.join(1, 2);
+        DUE.is("one for the third, as the other is ONE with a NAMED one", 1, seen.namings(4));
+        DUE.is("all three by that", 1, seen.namings(7));
+        seen.join(0, 1);
+        DUE.is("the third beside one of two NAMED that are ONE", 1, seen.namings(5));
+        DUE.is("and beside the other one", 1, seen.namings(6));
+        DUE.is("none of all three", 0, seen.namings(7));
+        DUE.is("why of all three", 3, seen.why(7));
+        DUE.is("give of the third", 3, seen.give(2));
+        seen.part(0, 1);
+        DUE.is("all three, PARTED again", 1, seen.namings(7));
     }
 
     private static void takes() {

@@ -565,13 +565,9 @@ final class Plain {
     }
 
     private boolean allowed(int set, int name, int[] person) {
-        if (!fits(set, name)) return false;
-        for (Map.Entry<Integer, Integer> one : given.entrySet()) {
-            boolean itself = one.getKey() == set;
-            if (itself && one.getValue() != name) return false;
-            if (!itself && person[one.getValue()] == person[name]) return false;
-        }
-        return true;
+        if (given.containsKey(set)) return given.get(set) == name;
+        for (int one : given.values()) if (person[one] == person[name]) return false;
+        return fits(set, name);
     }
 
     private boolean badSets(int bits) {
