@@ -24,7 +24,7 @@ public final class RandomRunsTest {
         int runs = args.length > 0 ? Integer.parseInt(args[0]) : 25;
         int from = args.length > 1 ? Integer.parseInt(args[1]) : 0;
         for (int run = from; run < from + runs; run++) {
-            for (int profile = 0; profile < 4; profile++) new RandomRunsTest(due, profile, run * 4L + profile).run();
+            for (int profile = 0; profile < 5; profile++) new RandomRunsTest(due, profile, run * 5L + profile).run();
         }
         due.end();
     }
@@ -53,6 +53,7 @@ public final class RandomRunsTest {
                 case 0: any(); break;
                 case 1: if (below(4) == 0) any(); else words(); break;
                 case 2: if (below(4) == 0) any(); else graves(); break;
+                case 4: naming(call); break;
                 default: if (below(3) == 0) any(); else rules();
             }
         }
@@ -261,6 +262,45 @@ public final class RandomRunsTest {
             case 12: is("named", plain.named(set), seen.named(set)); break;
             default: names();
         }
+    }
+
+    /** SETS that one or two FIT, so that many are NAMED, and JOININGS and PARTINGS of those who are. */
+    private void naming(int call) {
+        if (call < 20) {
+            if (below(2) == 0) addNarrowSet(); else addMissingAt(name(), 100 + 10 * below(6));
+            return;
+        }
+        int a = name();
+        int b = name();
+        int set = about(plain.count(8));
+        switch (below(16)) {
+            case 0: case 1: is("join", plain.join(a, b), seen.join(a, b)); break;
+            case 2: is("part", plain.part(a, b), seen.part(a, b)); break;
+            case 3: addNarrowSet(); break;
+            case 4: addMissingAt(a, below(4) == 0 ? 0 : 100 + 10 * below(6)); break;
+            case 5: if (below(5) == 0) is("take", plain.take(set), seen.take(set)); break;
+            case 6: if (below(3) == 0) names(); else graves(); break;
+            case 7: case 8: case 9: case 10: is("give", plain.give(set), seen.give(set)); break;
+            case 11: is("named", plain.named(set), seen.named(set)); break;
+            default: allOf(about(1 << plain.count(8)));
+        }
+    }
+
+    private void addNarrowSet() {
+        int low = 100 + 10 * below(6);
+        int high = low + 10 * below(3);
+        int grave = below(3);
+        is("set", plain.set(grave, low, high, 0, 0), seen.set(grave, low, high, 0, 0));
+    }
+
+    private void addMissingAt(int name, int height) {
+        is("missing", plain.missing(name, height, 0, 0), seen.missing(name, height, 0, 0));
+    }
+
+    private void allOf(int bits) {
+        is("namings", plain.namings(bits), seen.namings(bits));
+        is("why", plain.why(bits), seen.why(bits));
+        for (int set = 0; set < plain.count(8); set++) is("only", plain.only(set, bits), seen.only(set, bits));
     }
 
     private void addBone() {
