@@ -7,6 +7,7 @@ public final class GravesTest {
         bonesRefused();
         bounds();
         leastPersons();
+        leastPersonsAtTheEdges();
         setsAdded();
         setsRefused();
         missingTold();
@@ -98,6 +99,39 @@ public final class GravesTest {
         small.bone(1, 2, 1, 60);
         small.bone(1, 2, 1, 78);
         DUE.is("rights that are too small", 4, small.least(1));
+    }
+
+    private static void leastPersonsAtTheEdges() {
+        LastSeen seen = new LastSeen();
+        DUE.is("no BONES", 0, seen.least(0));
+        seen.bone(0, 0, 0, 0);
+        DUE.is("a left of SIZE 0 and no right", 1, seen.least(0));
+        seen.bone(0, 0, 1, 2);
+        DUE.is("SIZES that differ by the BOUND of at first", 1, seen.least(0));
+        seen.bone(1, 0, 0, 3);
+        seen.bone(1, 0, 1, 0);
+        DUE.is("SIZES that differ by one more", 2, seen.least(1));
+        seen.bound(0);
+        DUE.is("BOUND 0, SIZES that differ", 2, seen.least(0));
+        seen.bone(0, 0, 1, 0);
+        DUE.is("BOUND 0, SIZES that do not", 2, seen.least(0));
+        seen.bone(2, 3, 0, 79);
+        seen.bone(2, 3, 1, 99);
+        seen.bone(3, 3, 0, 99);
+        seen.bone(3, 3, 1, 78);
+        DUE.is("BOUND 0, by 20", 2, seen.least(2));
+        seen.bound(20);
+        DUE.is("BOUND 20, by 20", 1, seen.least(2));
+        DUE.is("BOUND 20, by 21", 2, seen.least(3));
+        LastSeen full = new LastSeen();
+        for (int i = 0; i < 12; i++) {
+            full.bone(0, 1, 0, i);
+            full.bone(0, 1, 1, 99 - i);
+            full.bone(0, 2, 1, 50);
+        }
+        DUE.is("twelve of each side, none of one person", 24, full.least(0));
+        for (int i = 0; i < 12; i++) full.bone(1, 1, i % 2, i / 2 * 5);
+        DUE.is("six couples", 6, full.least(1));
     }
 
     private static void setsAdded() {
@@ -248,6 +282,16 @@ public final class GravesTest {
         seen.join(0, 2);
         DUE.is("only of two NAMES that are ONE", -5, seen.only(0, 1));
         DUE.is("only of the other, by that they are ONE", 1, seen.only(1, 3));
+        LastSeen two = Due.with("a", "b", "c");
+        two.set(0, 150, 160, 0, 0);
+        two.missing(0, 140, 0, 0);
+        two.missing(1, 150, 0, 0);
+        two.missing(2, 160, 0, 0);
+        DUE.is("only of two that are not the first MISSING", -5, two.only(0, 1));
+        two.missing(1, 149, 0, 0);
+        DUE.is("only of the third MISSING", 2, two.only(0, 1));
+        two.missing(2, 161, 0, 0);
+        DUE.is("only of none that FITS", -5, two.only(0, 1));
     }
 
     private static int onlyWithNoNaming() {

@@ -4,6 +4,7 @@ public final class LandTest {
 
     public static void main(String[] args) {
         aNewObject();
+        objectsApart();
         constants();
         roads();
         roadsRefused();
@@ -26,6 +27,26 @@ public final class LandTest {
         DUE.is("far(0, 1) of a new one", -5, seen.far(0, 1));
         DUE.is("namings(0) of a new one", 1, seen.namings(0));
         DUE.is("why(0) of a new one", 0, seen.why(0));
+    }
+
+    /** What one object heard, another one did not, be it made ahead of that or behind it. */
+    private static void objectsApart() {
+        LastSeen ahead = new LastSeen();
+        LastSeen heard = Due.with("kara");
+        Due.rule(heard, "else>1");
+        Calls.answers(heard, "road 0 1 5; feed 97 1; word 1 0 1 0 0 -1; find 0; bone 0 0 0 0; bound 7; set 0 100 220 0 0");
+        Calls.answers(heard, "missing 0 0 0 0; give 0");
+        for (LastSeen seen : new LastSeen[] {ahead, new LastSeen()}) {
+            for (int what = 0; what <= 11; what++) DUE.is("count(" + what + ") of another one", 0, seen.count(what));
+            DUE.is("far(0, 1) of another one", -5, seen.far(0, 1));
+            DUE.is("least(0) of another one", 0, seen.least(0));
+            DUE.is("bound(3) of another one", 2, seen.bound(3));
+            DUE.is("road(0, 1, 9) of another one", 1, seen.road(0, 1, 9));
+            DUE.is("set of another one", 0, seen.set(0, 100, 220, 0, 0));
+            DUE.is("named(0) of another one", -5, seen.named(0));
+        }
+        DUE.is("bound(2) of the one that heard", 7, heard.bound(2));
+        DUE.is("named(0) of the one that heard", 0, heard.named(0));
     }
 
     private static void constants() {

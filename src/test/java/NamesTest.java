@@ -7,6 +7,7 @@ public final class NamesTest {
         namesFull();
         keys();
         keyRefused();
+        keysThatBeginAlike();
         joinAndPart();
         decreesRefused();
         entriesFull();
@@ -14,6 +15,8 @@ public final class NamesTest {
         personsByEntries();
         ties();
         tieTakesLeastRow();
+        tieByNamesBelowIt();
+        tieOfTwenty();
         tieRefused();
         DUE.end();
     }
@@ -77,6 +80,19 @@ public final class NamesTest {
         DUE.is("key(least int, -2), no such name", -5, seen.key(Integer.MIN_VALUE, -2));
         DUE.is("key(0, -1) of a new object", -5, new LastSeen().key(0, -1));
         DUE.is("key(0, 0) of a new object", -5, new LastSeen().key(0, 0));
+    }
+
+    /** One KEY is a KEY of the same letters and of as many. */
+    private static void keysThatBeginAlike() {
+        LastSeen seen = Due.with("kara", "karan", "kar", "akar", "k", "q");
+        DUE.is("cr and crn", 0, seen.link(0, 1, -1));
+        DUE.is("crn and cr", 0, seen.link(1, 2, -1));
+        DUE.is("cr and cr", 1, seen.link(0, 2, -1));
+        DUE.is("cr and acr", 0, seen.link(2, 3, -1));
+        DUE.is("cr and c", 0, seen.link(0, 4, -1));
+        DUE.is("c and c", 1, seen.link(4, 5, -1));
+        DUE.is("the crn's PERSON", 1, seen.person(1, -1));
+        DUE.is("count(2)", 4, seen.count(2));
     }
 
     private static void joinAndPart() {
@@ -206,6 +222,38 @@ public final class NamesTest {
         // Now 0 1 3 5 is less at the third.
         seen.join(1, 3);
         DUE.is("least row, name 2", 3, seen.tie(5, 0, 2));
+    }
+
+    private static void tieByNamesBelowIt() {
+        LastSeen seen = Due.with("xa", "b", "c", "d", "f", "xo");
+        seen.part(2, 1);
+        seen.join(1, 0);
+        seen.join(0, 2);
+        int[] row = {1, 0, 2};
+        DUE.is("by NAME 0, how many", 3, seen.tie(2, 1, -1));
+        for (int i = 0; i < 3; i++) DUE.is("by NAME 0, name " + i, row[i], seen.tie(1, 2, i));
+        LastSeen side = Due.with("xa", "b", "c", "d", "f", "xo");
+        side.part(0, 5);
+        // 0 4 5 alone is short; 1 is as far from 5 as 0 is.
+        int[][] joined = {{0, 1}, {0, 4}, {4, 5}, {1, 3}, {3, 5}};
+        for (int[] pair : joined) side.join(pair[0], pair[1]);
+        int[] due = {0, 4, 5};
+        DUE.is("not by one that is as far, how many", 3, side.tie(0, 5, -1));
+        for (int i = 0; i < 3; i++) DUE.is("not by one that is as far, name " + i, due[i], side.tie(0, 5, i));
+    }
+
+    /** The longest TIE that there can be: all twenty NAMES in a row. */
+    private static void tieOfTwenty() {
+        LastSeen seen = new LastSeen();
+        for (int i = 0; i < 20; i++) Due.name(seen, "" + "dfg".charAt(i / 7) + "lmnprst".charAt(i % 7));
+        DUE.is("PERSONS at first", 20, seen.count(2));
+        for (int i = 0; i < 19; i++) seen.join(i + 1, i);
+        DUE.is("PERSONS then", 1, seen.count(2));
+        seen.part(19, 0);
+        DUE.is("all twenty", 20, seen.tie(19, 0, -1));
+        for (int i = 0; i < 20; i++) DUE.is("all twenty, name " + i, i, seen.tie(0, 19, i));
+        DUE.is("all twenty, name 20", LastSeen.NONE, seen.tie(0, 19, 20));
+        DUE.is("all twenty, name 21", LastSeen.NONE, seen.tie(0, 19, 21));
     }
 
     private static void tieRefused() {

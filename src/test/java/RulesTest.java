@@ -112,12 +112,25 @@ public final class RulesTest {
         DUE.is("count(0)", 18, seen.count(0));
         String[] due = {"r=3", "e=2", "h=2", "c=0", "n=2", "l=999", "k=1"};
         for (String when : due) DUE.is(when, 1, asks(seen, 1, when));
+        LastSeen none = Due.with("kara", "bob");
+        none.word(1, 0, 7, 3, 20, -1);
+        none.last(0, -1);
+        DUE.is("l of no ROOTS, behind one that has some", 1, asks(none, 1, "l=0"));
+        none.last(0, -1);
+        DUE.is("k of no ROOTS, behind one that has some", 1, asks(none, 1, "k=0"));
+        DUE.is("k of all ten PLACES", 1, asks(allPlaces(), 0, "k=10&l=0&r=1"));
+    }
+
+    private static LastSeen allPlaces() {
+        LastSeen seen = Due.with("a");
+        seen.word(0, 0, 1023, 0, 0, -1);
+        return seen;
     }
 
     private static void signsAndGroups() {
         String[] so = {"n<2", "n=1", "n.0", "!n.1", "!!n=1", "n=1|n=2&n=3", "n=2&n=3|n=1", "(n=2|n=1)&n=1",
             "!(n=2|n=3)", "!n=2&!n=3", "n=2|!(n=1&n=2)", "((n=1))", "n<999", "!(!(n=1))"};
-        String[] not = {"n<1", "n=0", "n.1", "!n=1", "n=2&n=1|n=3", "(n=2|n=1)&n=2", "!(n=1|n=2)", "n=1&n=2",
+        String[] not = {"n<1", "n<0", "n=0", "n.1", "!n=1", "n=2&n=1|n=3", "(n=2|n=1)&n=2", "!(n=1|n=2)", "n=1&n=2",
             "(n=1|n=1)&(n=2|n=3)", "!n=1|n=2", "!!(n=2)", "n.999"};
         for (int i = 0; i < so.length; i++) DUE.is(so[i], 1, askNew(so[i]));
         for (int i = 0; i < not.length; i++) DUE.is(not[i], 0, askNew(not[i]));
@@ -209,10 +222,16 @@ public final class RulesTest {
         DUE.is("LEANS on", 3, seen.found(0, 4));
         for (int i = 0; i < 3; i++) DUE.is("LEANS on, " + i, due[i], seen.found(0, 10 + i));
         DUE.is("LEANS on, 3", LastSeen.NONE, seen.found(0, 13));
+        seen.find(1);
+        DUE.is("the other one LEANS on", 1, seen.found(1, 4));
+        DUE.is("the other one LEANS on, 0", 0, seen.found(1, 10));
+        DUE.is("the other one LEANS on, 1", LastSeen.NONE, seen.found(1, 11));
         seen.withdraw(0);
         seen.word(6, 0, 1, 0, 0, -1);
         seen.join(1, 0);
         DUE.is("LEANS on what stood then", 3, seen.found(0, 4));
+        seen.eyes(2, -1);
+        DUE.is("LEANS on what stood then, 2", 4, seen.found(0, 12));
         DUE.is("LEANS on what stood then, 0", 0, seen.found(0, 10));
     }
 

@@ -13,9 +13,11 @@ public final class WordsTest {
         eyesOfRoots();
         canBe();
         canByPlacesAndWatches();
+        canAtTheEdges();
         canLooksAtEight();
         quarrels();
         quarrelTakesLeastSet();
+        quarrelOfEight();
         couldBe();
         lastRoot();
         namesThatCameLater();
@@ -222,6 +224,39 @@ public final class WordsTest {
         DUE.is("the quarrel is of three", 3, chain.quarrel(0, -1, -1));
     }
 
+    /** The last PLACE, the last WATCH, and WATCHES one too few. */
+    private static void canAtTheEdges() {
+        LastSeen seen = Due.with("a");
+        seen.road(9, 8, 30);
+        seen.word(1, 0, 512, 999, 999, -1);
+        DUE.is("could at the last PLACE and WATCH", 1, seen.could(0, -1, 9, 999));
+        DUE.is("could at the last WATCH elsewhere", 0, seen.could(0, -1, 8, 999));
+        DUE.is("could as many WATCHES ahead as FAR", 1, seen.could(0, -1, 8, 969));
+        DUE.is("could one too few ahead", 0, seen.could(0, -1, 8, 970));
+        DUE.is("could at the first WATCH", 1, seen.could(0, -1, 8, 0));
+        seen.word(1, 0, 256, 969, 969, -1);
+        DUE.is("can, as many as FAR", 1, seen.can(0, -1));
+        seen.word(1, 0, 256, 970, 999, -1);
+        DUE.is("can't, one too few on any way", 0, seen.can(0, -1));
+        DUE.is("quarrel of the first and the third", 2, seen.quarrel(0, -1, -1));
+        DUE.is("quarrel, the second", 2, seen.quarrel(0, -1, 1));
+        seen.withdraw(2);
+        seen.word(1, 0, 1023, 0, 0, -1);
+        DUE.is("can, at any of ten PLACES", 1, seen.can(0, -1));
+        DUE.is("could, by the tenth's neighbour", 1, seen.could(0, -1, 9, 30));
+        DUE.is("could not be where no ROAD leads", 0, seen.could(0, -1, 7, 30));
+        LastSeen choice = Due.with("a");
+        choice.road(0, 9, 10);
+        choice.word(1, 0, 1 | 512, 0, 0, -1);
+        choice.word(1, 0, 2 | 512, 3, 3, -1);
+        DUE.is("can, both at the one PLACE that they share", 1, choice.can(0, -1));
+        choice.word(1, 0, 1, 12, 12, -1);
+        DUE.is("can't by the one PLACE", 0, choice.can(0, -1));
+        choice.withdraw(2);
+        choice.word(1, 0, 1, 13, 13, -1);
+        DUE.is("can by the one PLACE", 1, choice.can(0, -1));
+    }
+
     private static void canLooksAtEight() {
         LastSeen seen = Due.with("a");
         for (int i = 0; i < 8; i++) seen.word(i, 0, 1, 0, 0, -1);
@@ -256,6 +291,9 @@ public final class WordsTest {
         DUE.is("quarrel by 5", LastSeen.STATE, seen.quarrel(0, 5, -1));
         DUE.is("quarrel(2, -1, -1)", LastSeen.NONE, seen.quarrel(2, -1, -1));
         DUE.is("quarrel(0, 7, -1)", LastSeen.NONE, seen.quarrel(0, 7, -1));
+        seen.withdraw(3);
+        DUE.is("quarrel of those that stand now", LastSeen.STATE, seen.quarrel(0, -1, -1));
+        DUE.is("quarrel as it was", 2, seen.quarrel(0, 6, -1));
     }
 
     private static void quarrelTakesLeastSet() {
@@ -273,6 +311,35 @@ public final class WordsTest {
         seen.withdraw(1);
         DUE.is("quarrel then, the first", 2, seen.quarrel(0, -1, 0));
         DUE.is("quarrel then, the second", 3, seen.quarrel(0, -1, 1));
+        LastSeen fewer = Due.with("a");
+        int[][] roads = {{0, 1}, {1, 2}, {0, 2}};
+        for (int[] road : roads) fewer.road(road[0], road[1], 10);
+        for (int place = 0; place < 3; place++) fewer.word(1, 0, 1 << place, 0, 15, -1);
+        DUE.is("three that can't, as bits 7", 3, fewer.quarrel(0, -1, -1));
+        for (int i = 0; i < 3; i++) DUE.is("of three, " + i, i, fewer.quarrel(0, -1, i));
+        fewer.word(1, 0, 8, 0, 0, -1);
+        DUE.is("two that can't, as bits 9, are fewer", 2, fewer.quarrel(0, -1, -1));
+        DUE.is("of two, the first", 0, fewer.quarrel(0, -1, 0));
+        DUE.is("of two, the second", 3, fewer.quarrel(0, -1, 1));
+    }
+
+    /** As long as a LEAST QUARREL can be: eight PLACES, and time for a walk by seven of them. */
+    private static void quarrelOfEight() {
+        LastSeen seen = Due.with("a");
+        for (int a = 0; a < 8; a++) {
+            for (int b = 0; b < a; b++) seen.road(a, b, 10);
+        }
+        for (int place = 0; place < 8; place++) seen.word(1, 0, 1 << place, 0, 69, -1);
+        DUE.is("eight can't", 0, seen.can(0, -1));
+        DUE.is("quarrel of eight", 8, seen.quarrel(0, -1, -1));
+        for (int i = 0; i < 8; i++) DUE.is("quarrel of eight, " + i, i, seen.quarrel(0, -1, i));
+        DUE.is("quarrel of eight, 8", LastSeen.NONE, seen.quarrel(0, -1, 8));
+        seen.word(1, 0, 1, 999, 999, -1);
+        DUE.is("quarrel of eight, the ninth ROOT does not count", 8, seen.quarrel(0, -1, -1));
+        seen.withdraw(0);
+        DUE.is("seven and the ninth can", 1, seen.can(0, -1));
+        DUE.is("could not be at an eighth PLACE by 69", 0, seen.could(0, -1, 0, 69));
+        DUE.is("could be there by 70", 1, seen.could(0, -1, 0, 70));
     }
 
     private static void couldBe() {
@@ -299,6 +366,9 @@ public final class WordsTest {
         DUE.is("could, watch -1", LastSeen.BAD, seen.could(0, -1, 0, -1));
         DUE.is("could, watch 1000", LastSeen.BAD, seen.could(0, -1, 0, 1000));
         DUE.is("could by 6", LastSeen.NONE, seen.could(0, 6, 0, 0));
+        seen.withdraw(2);
+        DUE.is("could of those that stand now", 1, seen.could(0, -1, 0, 110));
+        DUE.is("could as it was", 0, seen.could(0, 5, 0, 110));
     }
 
     private static void lastRoot() {
@@ -310,9 +380,15 @@ public final class WordsTest {
         seen.word(1, 1, 1, 0, 60, -1);
         seen.word(1, 0, 1, 0, 0, 2);
         DUE.is("last, by the ROOT's own WATCHES", 2, seen.last(0, -1));
+        DUE.is("last of b", 2, seen.last(1, -1));
+        seen.word(1, 1, 1, 59, 59, -1);
+        seen.word(1, 1, 1, 0, 60, -1);
+        DUE.is("last of b, not the later ones", 2, seen.last(1, -1));
         for (int i = 0; i < 8; i++) seen.word(1, 0, 1, 0, 1, -1);
         seen.word(1, 0, 1, 0, 999, -1);
-        DUE.is("last, of all ROOTS, not 8", 12, seen.last(0, -1));
+        DUE.is("last, of all ROOTS, not 8", 14, seen.last(0, -1));
+        seen.withdraw(14);
+        DUE.is("last, of those that stand", 2, seen.last(0, -1));
         DUE.is("last by 4", 0, seen.last(0, 4));
         DUE.is("last(2, -1)", LastSeen.NONE, seen.last(2, -1));
         DUE.is("last(0, 99)", LastSeen.NONE, seen.last(0, 99));
