@@ -20,6 +20,7 @@ public final class GravesTest {
         onlyRefused();
         whyNot();
         gives();
+        givesEight();
         givenKeepOthersOff();
         givenThatBecomeOne();
         givenThatBecomeOneBarOthers();
@@ -364,6 +365,23 @@ public final class GravesTest {
         other.set(1, 100, 150, 0, 0);
         other.missing(0, 120, 0, 0);
         DUE.is("give, by the SETS of its own GRAVE alone", 0, other.give(1));
+    }
+
+    /** All eight SETS of one GRAVE, each of one height, and ten MISSING. */
+    private static void givesEight() {
+        LastSeen seen = Due.with("a", "b", "c", "d", "f", "g", "l", "m", "n", "r");
+        for (int i = 0; i < 8; i++) seen.set(3, 100 + i, 100 + i, 0, 0);
+        for (int i = 0; i < 10; i++) seen.missing(9 - i, 109 - i, 0, 0);
+        DUE.is("namings of eight", 1, seen.namings(255));
+        DUE.is("why of eight", 0, seen.why(255));
+        for (int i = 7; i >= 0; i--) {
+            DUE.is("only of " + i, i, seen.only(i, 255));
+            DUE.is("give(" + i + ") of eight", i, seen.give(i));
+        }
+        DUE.is("count(10)", 8, seen.count(10));
+        DUE.is("namings of eight NAMED", 1, seen.namings(255));
+        DUE.is("take(3), and 2, 1, 0 that were later", 4, seen.take(3));
+        for (int i = 0; i < 8; i++) DUE.is("named(" + i + ") of eight", i < 4 ? -5 : i, seen.named(i));
     }
 
     private static void givenKeepOthersOff() {

@@ -184,6 +184,15 @@ public final class NamesTest {
         DUE.is("person(1) by 3, PARTED", 1, between.person(1, 3));
         DUE.is("person(1) by 4, by the NAME that came between", 0, between.person(1, 4));
         DUE.is("tie by the NAME that came between", 3, between.tie(0, 1, -1));
+        LastSeen later = Due.with("kara", "cara");
+        later.part(0, 1);
+        later.join(0, 1);
+        later.part(0, 1);
+        later.part(0, 1);
+        Due.name(later, "qara");
+        int[] ofOne = {-1, -1, 0, 1, 0, 1, 1, 0};
+        for (int e = 0; e <= 7; e++) DUE.is("person(1) by " + e + ", a NAME came last", ofOne[e], later.person(1, e));
+        for (int e = 7; e >= 0; e--) DUE.is("person(1) back by " + e, ofOne[e], later.person(1, e));
     }
 
     private static void ties() {
@@ -254,6 +263,14 @@ public final class NamesTest {
         for (int i = 0; i < 20; i++) DUE.is("all twenty, name " + i, i, seen.tie(0, 19, i));
         DUE.is("all twenty, name 20", LastSeen.NONE, seen.tie(0, 19, 20));
         DUE.is("all twenty, name 21", LastSeen.NONE, seen.tie(0, 19, 21));
+        // Two PERSONS of ten, of which the one has a TIE of all its NAMES.
+        seen.part(10, 9);
+        DUE.is("no TIE from the one to the other", LastSeen.STATE, seen.tie(0, 19, -1));
+        seen.part(0, 9);
+        DUE.is("ten of twenty", 10, seen.tie(0, 9, -1));
+        for (int i = 0; i < 10; i++) DUE.is("ten of twenty, name " + i, i, seen.tie(0, 9, i));
+        seen.part(10, 19);
+        for (int i = 0; i < 10; i++) DUE.is("the other ten, name " + i, 10 + i, seen.tie(10, 19, i));
     }
 
     private static void tieRefused() {

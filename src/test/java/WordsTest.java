@@ -255,6 +255,15 @@ public final class WordsTest {
         choice.withdraw(2);
         choice.word(1, 0, 1, 13, 13, -1);
         DUE.is("can by the one PLACE", 1, choice.can(0, -1));
+        LastSeen order = Due.with("a");
+        order.road(4, 6, 10);
+        order.word(1, 0, 1 << 4, 0, 30, -1);
+        order.word(1, 0, 1 << 6, 3, 3, -1);
+        DUE.is("can, the second ahead of the first", 1, order.can(0, -1));
+        DUE.is("could wait there", 1, order.could(0, -1, 6, 20));
+        DUE.is("could not be in time for both", 0, order.could(0, -1, 6, 21));
+        DUE.is("nor yet be back", 0, order.could(0, -1, 6, 22));
+        DUE.is("could be back", 1, order.could(0, -1, 6, 23));
     }
 
     private static void canLooksAtEight() {
